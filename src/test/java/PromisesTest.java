@@ -130,7 +130,35 @@ public final class PromisesTest {
         no("minutes", w.row(1, 1, 0, 0));
         no("minutes", w.row(1, 1, 0, 61));
         is("count(5)", w.count(5), 1);
+        fullWood();
         takesAllAway();
+        newFiresBehindARow();
+    }
+
+    private static void fullWood() {
+        SmokeWatch w = flat(16);
+        is("all of it", w.count(5), 256);
+        is("no square, though 16 r + c is one's number", w.crew(1, -1), NONE);
+        is("no square, though 16 r + c is one's number", w.crew(0, 16), NONE);
+        is("no square, though 16 r + c is one's number", w.crew(-1, 16), NONE);
+        is("no square", w.crew(16, 0), NONE);
+        is("no square", w.crew(15, 16), NONE);
+        is("the last", w.crew(15, 15), 0);
+        is("its number", w.place(0), 255);
+        w.crew(0, 0);
+        is("from corner to corner", w.minutes(0, 0, 0), 30);
+        is("the way's end", w.way(0, 0, 0, 30), 0);
+    }
+
+    private static void newFiresBehindARow() {
+        SmokeWatch w = flat(3);
+        w.report(0, 0, 5, 1, 1, 0);
+        w.begin(0);
+        w.out(0);
+        w.row(0, 3, 0, 1);
+        w.report(0, 0, 5, 1, 1, 0);
+        is("begin", w.begin(0), 0);
+        is("it BURNS", w.fire(0, 0), 0);
     }
 
     private static SmokeWatch busy() {
@@ -337,6 +365,8 @@ public final class PromisesTest {
         is("FAINT's reach", w.sight(2, 0, 0, 1, 0, 0, 41, 0), NONE);
         is("nothing is done", w.count(1) + w.count(4), 0);
         is("the edges", bearing(w, 0, 9999, -50, 50, 400), 0);
+        yes("clear", w.clear(0));
+        is("the edges", bearing(w, 0, 0, 50, -50, 0), 0);
         is("BEARING's reach counts for nothing", w.sight(0, 0, 0, 1, 0, 0, -5, 0x7FC00000), 1);
         is("SHORT's haze counts for nothing", w.sight(1, 0, 0, 1, 0, 0, 40, 0x7FC00000), 2);
         is("GLOW's reach counts for nothing", w.sight(3, 0, 0, 1, 0, 0, 41, -1), 3);
@@ -774,10 +804,15 @@ public final class PromisesTest {
         w.report(0, 0, 1, 0, 1, 0);
         w.begin(0);
         is("of 1 to 4 both 2 and 3, the least", w.fire(0, 3), 2);
+        is("asked again", w.fire(0, 3), 2);
         w.report(2, 0, 1, 0, 1, 100);
         w.begin(1);
         patchIs(w, 1, 2, 3, 4, 17, 18, 19, 20, 33, 34, 35, 36, 49, 50, 51, 52, 66, 67, 68);
         is("middle", w.fire(1, 3), 35);
+        w.report(0, 4, 1, 1, 0, 0);
+        w.begin(2);
+        is("16 r + 4, r 1 to 4", w.fire(2, 3), 36);
+        is("asked again", w.fire(0, 3), 2);
         // The middle is one of the patch: two that lie apart.
         w = flat(5);
         w.square(0, 2, 500, 1);
@@ -873,8 +908,24 @@ public final class PromisesTest {
         w.report(0, 6, 3, 1, 0, 0);
         w.report(6, 0, 4, 0, 1, 0);
         is("two", w.fewest(1, 4), 2);
+        threePairs();
         is("0 and 1", w.fewest(1, 2), 1);
         is("0, 1 and 2", w.fewest(1, 3), 2);
+    }
+
+    private static void threePairs() {
+        // Columns 1 to 3 and diagonals that each meet just one of them: 0 with 5, 1 with 4, 2 with 3.
+        SmokeWatch w = flat(8);
+        w.report(1, 1, 1, -1, 0, 0);
+        w.report(1, 3, 1, -1, 0, 0);
+        w.report(1, 5, 1, -1, 0, 0);
+        w.report(0, 6, 1, 0, -1, 0);
+        w.report(1, 4, 2, -1, -1, 0);
+        w.report(1, 2, 2, -1, -1, 0);
+        is("(0, 1), (0, 3), (0, 5) apart, all on row 0", w.fewest(1, 1), 3);
+        is("three pairs", w.fewest(1, 2), 3);
+        w.report(1, 6, 2, -1, 0, 0);
+        is("(0, 6) is of none", w.fewest(1, 2), 4);
     }
 
     private static void nexts() {
@@ -903,6 +954,57 @@ public final class PromisesTest {
         is("GONE", w.next(0), NONE);
         eachDirection();
         nextAsksSeen();
+        nextHasSide41();
+    }
+
+    private static void nextHasSide41() {
+        // 5 / 12 is above 41 in 100, and so is 7 / 17, as (12, 5) lies by (1, 1): it is in neither.
+        SmokeWatch w = flat(16);
+        w.tower(0, 0, 100);
+        w.report(11, 5, 1, 1, 0, 0);
+        w.begin(0);
+        patchIs(w, 0, 16 * 12 + 5, 16 * 13 + 5, 16 * 14 + 5, 16 * 15 + 5);
+        is("down has three, all others none", w.next(0), 4);
+        // 2 / 5 is below it: of (5, 2) to (5, 4) the first is down, the others are aslant.
+        w = flat(16);
+        w.tower(0, 0, 100);
+        w.report(5, 1, 1, 0, 1, 0);
+        w.report(5, 5, 1, 0, -1, 0);
+        w.begin(0);
+        w.join(1, 0);
+        patchIs(w, 0, 82, 83, 84);
+        is("aslant has two", w.next(0), 3);
+        mostlyByBearings();
+    }
+
+    /** What next() answers against the BEARINGS themselves. */
+    private static void mostlyByBearings() {
+        int[] downs = {-1, -1, 0, 1, 1, 1, 0, -1};
+        int[] rights = {0, 1, 1, 1, 0, -1, -1, -1};
+        for (int n = 0; n < 12; n++) {
+            SmokeWatch w = flat(16);
+            w.tower(3, 4 + n % 3, 30);
+            w.tower(12, 9, 30);
+            w.report(n, 2, 1, 3, 7 - n, 30 + 5 * n);
+            is("begin", w.begin(0), 0);
+            int least = 999;
+            int due = NONE;
+            for (int look = 0; look < 16; look++) {
+                int i = bearing(w, look / 8, 1, downs[look % 8], rights[look % 8], 41);
+                int has = 0;
+                for (int k = 0; k < w.log(i, 3); k++) {
+                    for (int m = 0; m < w.fire(0, 2); m++) {
+                        has += w.squares(i, k) == w.patch(0, m) ? 1 : 0;
+                    }
+                }
+                int greater = Math.max(has, w.fire(0, 2) - has);
+                if (greater < least) {
+                    least = greater;
+                    due = look;
+                }
+            }
+            is("next of " + n, w.next(0), due);
+        }
     }
 
     private static void eachDirection() {
@@ -993,6 +1095,14 @@ public final class PromisesTest {
         w.crew(0, 0);
         is("down", w.minutes(0, 0, 0), 1);
         is("up", w.minutes(1, 0, 1), 51);
+        w.undo();
+        w.undo();
+        yes("the wood changes", w.square(0, 1, 0, 7));
+        w.crew(0, 0);
+        is("and the minutes with it", w.minutes(0, 0, 1), 7);
+        w.row(0, 2, 0, 9);
+        w.crew(0, 0);
+        is("and with a new ROW", w.minutes(0, 0, 1), 9);
     }
 
     private static void ways() {
@@ -1038,6 +1148,7 @@ public final class PromisesTest {
         w.row(8, 0, 0, 0);
         w.row(9, 1, 0, 1);
         is("no fire", w.send(), NONE);
+        is("none at first", new SmokeWatch().sent(0), NONE);
         w.report(0, 0, 1, 0, 1, 0);
         w.report(7, 1, 1, 0, -1, 0);
         w.begin(0);
@@ -1098,6 +1209,44 @@ public final class PromisesTest {
         is("middles (0, 3) and (5, 3)", w.send(), 2 + 2);
         is("0", w.sent(0), 1);
         is("1", w.sent(1), 0);
+        eightFires();
+    }
+
+    private static void eightFires() {
+        // Fire f is on (f, 0) alone; crew k stands on (7 - k, 1).
+        SmokeWatch w = flat(8);
+        for (int f = 0; f < 8; f++) {
+            w.report(f, 1, 1, 0, -1, 0);
+            is("begin", w.begin(f), f);
+            is("crew", w.crew(7 - f, 1), f);
+        }
+        is("a step each", w.send(), 8);
+        for (int f = 0; f < 8; f++) {
+            is("sent", w.sent(f), 7 - f);
+        }
+        w.report(0, 0, 1, 0, 1, 0);
+        w.begin(8);
+        is("nine burn", w.send(), NONE);
+        w.out(2);
+        // Fire 8's middle is (0, 4); the crew of (2, 1) is free: of three ways to 12 that with fire 0's least.
+        is("eight again", w.send(), 3 + 3 + 1 + 5);
+        is("fire 0", w.sent(0), 5);
+        is("fire 1", w.sent(1), 6);
+        is("fire 2 is OUT", w.sent(2), NONE);
+        is("fire 8", w.sent(8), 7);
+        // Two steps to the one's left or six to the other's: the row begins with the least.
+        w = flat(3);
+        w.report(1, 1, 1, 0, -1, 0);
+        w.begin(0);
+        w.report(1, 1, 1, 0, 1, 0);
+        w.begin(1);
+        w.crew(2, 2);
+        w.crew(0, 1);
+        w.crew(2, 1);
+        w.crew(0, 1);
+        is("(1, 0) and (1, 2)", w.send(), 1 + 2);
+        is("0", w.sent(0), 1);
+        is("1", w.sent(1), 0);
     }
 
     private static void blinds() {
@@ -1149,6 +1298,11 @@ public final class PromisesTest {
         is("over it", w.best(), 0);
         w.square(0, 1, 3, 1);
         is("just hidden (2 1/2), so from its top", w.best(), 1);
+        // 13 to 0: the line goes out of the middle square at 3 1/4, of 12 to 0 at 3.
+        w.square(0, 0, 3, 1);
+        is("an eye of 13 sees over 3", w.best(), 0);
+        w.square(0, 0, 2, 1);
+        is("an eye of 12 doesn't", w.best(), 1);
         is("a new object", new SmokeWatch().best(), NONE);
     }
 
@@ -1304,6 +1458,21 @@ public final class PromisesTest {
         no("the first three stay", w.undo());
         is("the first three stay", w.count(1), 3);
         is("the first three stay", w.log(2, 1), 2);
+        // The 51st act is a clear, the 52nd a move.
+        w = flat(6);
+        w.crew(0, 0);
+        for (int n = 1; n < 50; n++) {
+            w.remark(n);
+        }
+        w.clear(3);
+        w.move(0, 5, 5);
+        w.undo();
+        is("move", w.place(0), 0);
+        w.undo();
+        is("clear", w.log(3, 1), 4);
+        w.move(0, 5, 5);
+        w.undo();
+        is("move", w.place(0), 0);
         // The office's joins are acts each.
         w = flat(2);
         for (int n = 0; n < 60; n++) {
