@@ -907,24 +907,20 @@ public final class SmokeWatch {
         }
 
         int bestNew() {
-            if (bestKnown == UNKNOWN) {
-                bestKnown = searchBest();
+            if (bestKnown != UNKNOWN) {
+                return bestKnown;
             }
-            return bestKnown;
-        }
-
-        private int searchBest() {
             int blind = unseen().size();
-            int found = NONE;
             int most = 0;
+            bestKnown = NONE;
             for (int q = 0; q < SQUARES; q++) {
                 int n = wood.there().has(q) ? countNew(q, blind, most) : 0;
                 if (n > most) {
                     most = n;
-                    found = q;
+                    bestKnown = q;
                 }
             }
-            return found;
+            return bestKnown;
         }
 
         /** How many of the blind squares would be seen from q; stops once `most` can't be passed any more. */

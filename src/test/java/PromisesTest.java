@@ -1303,6 +1303,13 @@ public final class PromisesTest {
         is("an eye of 13 sees over 3", w.best(), 0);
         w.square(0, 0, 2, 1);
         is("an eye of 12 doesn't", w.best(), 1);
+        w = new SmokeWatch();
+        w.row(0, 1, 0, 1);
+        w.row(2, 1, 0, 1);
+        is("each sees itself alone", w.best(), 0);
+        w.row(0, 0, 0, 1);
+        is("square 0 is missing", w.best(), 32);
+        is("square 0 is missing", w.blind(0), 32);
         is("a new object", new SmokeWatch().best(), NONE);
     }
 
