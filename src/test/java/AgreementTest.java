@@ -2,25 +2,33 @@ import java.util.Random;
 
 /** Runs of calls by a fixed seed: SmokeWatch must answer every one as PlainWatch does. */
 public final class AgreementTest {
-    private static final int CALLS = 480;
+    /** The most calls that one step of a run makes: undoing all that can be undone and more. */
+    private static final int STEP = 60;
+    private static final int ALL_HEIGHTS = 4001;
+
+    /** Numbers that are no place, tower, fire, crew, rank or kind, but whose lowest bits are those of one. */
+    private static final int[] WILD = {Integer.MIN_VALUE, Integer.MIN_VALUE + 1, -65536, -256, -60, -32, -16, 16,
+        31, 32, 33, 64, 255, 256, 65536, Integer.MAX_VALUE - 1, Integer.MAX_VALUE};
 
     private static int wrong;
 
     private final Random random;
-    private final SmokeWatch watch = new SmokeWatch();
+    private final Watch watch = new Watch();
     private final PlainWatch plain = new PlainWatch();
     private final int run;
     private final int size;
     private final int rough;
     private final int lately;
+    private final boolean crowded;
     private final StringBuilder told = new StringBuilder();
 
     private AgreementTest(int run) {
         this.run = run;
         random = new Random(977L * run + 5);
         size = new int[] {3, 5, 7, 10, 16}[run % 5];
-        rough = new int[] {0, 6, 20, 60, 400}[random.nextInt(5)];
+        rough = new int[] {0, 6, 20, 60, 400, ALL_HEIGHTS}[random.nextInt(6)];
         lately = random.nextInt(3) == 0 ? 3 : 60;
+        crowded = random.nextInt(4) == 0;
     }
 
     public static void main(String[] args) {
@@ -34,9 +42,8 @@ public final class AgreementTest {
 
     private void go() {
         layWood();
-        int calls = 0;
         boolean fiery = random.nextBoolean();
-        while (calls++ < CALLS - 3 * size && wrong == 0) {
+        while (watch.calls() <= Watch.CALLS - STEP && wrong == 0) {
             if (random.nextInt(fiery ? 3 : 2) == 0) {
                 ask();
             } else {
@@ -59,6 +66,10 @@ public final class AgreementTest {
     }
 
     private int height() {
+        if (rough == ALL_HEIGHTS) {
+            return random.nextInt(20) == 0 ? new int[] {-1001, -1000, 3000, 3001}[random.nextInt(4)]
+                : random.nextInt(ALL_HEIGHTS) - 1000;
+        }
         return rough == 0 ? 0 : random.nextInt(rough);
     }
 
@@ -67,28 +78,33 @@ public final class AgreementTest {
         return from - 1 + random.nextInt(to - from + 3);
     }
 
+    /** Just outside, or far from it. */
+    private int odd(int from, int to) {
+        return random.nextInt(3) == 0 ? WILD[random.nextInt(WILD.length)] : near(from, to);
+    }
+
     private int coordinate() {
-        return random.nextInt(12) == 0 ? near(0, size) : random.nextInt(size);
+        return random.nextInt(12) == 0 ? odd(0, size) : random.nextInt(size);
     }
 
     private int placeOfLog() {
         int used = Math.max(1, plain.count(1));
-        return random.nextInt(20) == 0 ? near(0, 60) : random.nextInt(used);
+        return random.nextInt(20) == 0 ? odd(0, 60) : random.nextInt(used);
     }
 
     private int fireNumber() {
         int ever = Math.max(1, plain.count(2));
-        return random.nextInt(12) == 0 ? near(0, 20) : random.nextInt(ever);
+        return random.nextInt(12) == 0 ? odd(0, 20) : random.nextInt(ever);
     }
 
     private int crewNumber() {
         int crews = Math.max(1, plain.count(3));
-        return random.nextInt(12) == 0 ? near(0, 8) : random.nextInt(crews);
+        return random.nextInt(12) == 0 ? odd(0, 8) : random.nextInt(crews);
     }
 
     private int towerNumber() {
         int towers = Math.max(1, plain.count(0));
-        return random.nextInt(12) == 0 ? near(0, 8) : random.nextInt(towers);
+        return random.nextInt(12) == 0 ? odd(0, 8) : random.nextInt(towers);
     }
 
     private int minute() {
@@ -112,10 +128,20 @@ public final class AgreementTest {
         return Float.floatToIntBits(random.nextInt(101) / 100f) + random.nextInt(3) - 1;
     }
 
-    private void act() {
+    /** Where it is crowded nothing is cleared, taken apart or undone, so that the log, the fires and the crews fill up. */
+    private int kindOfAct() {
         int n = random.nextInt(100);
+        if (!crowded || random.nextInt(20) == 0) {
+            return n;
+        }
+        boolean lessens = n >= 38 && n < 44 || n >= 64 && n < 71 || n >= 93;
+        return lessens ? random.nextInt(38) : n >= 44 && n < 52 ? 60 : n;
+    }
+
+    private void act() {
+        int n = kindOfAct();
         if (n < 30) {
-            sight(random.nextInt(25) == 0 ? near(0, 3) : random.nextInt(4), towerNumber());
+            sight(random.nextInt(25) == 0 ? odd(0, 3) : random.nextInt(4), towerNumber());
         } else if (n < 36) {
             int r = coordinate();
             int c = coordinate();
@@ -165,7 +191,7 @@ public final class AgreementTest {
             same("send", watch.send(), plain.send());
         } else if (n < 90) {
             int i = placeOfLog();
-            int f = random.nextInt(5) == 0 ? near(-1, 60) : random.nextInt(3);
+            int f = random.nextInt(5) == 0 ? odd(-1, 60) : random.nextInt(3);
             same("claim " + i + " " + f, bit(watch.claim(i, f)), bit(plain.claim(i, f)));
         } else if (n < 92) {
             square(coordinate(), coordinate(), height(), near(1, 60));
@@ -174,7 +200,7 @@ public final class AgreementTest {
         } else if (random.nextInt(150) == 0) {
             row(near(0, 15), near(0, 16), height(), near(1, 60));
         } else {
-            for (int times = random.nextInt(30) == 0 ? 60 : 1 + random.nextInt(3); times > 0; times--) {
+            for (int times = random.nextInt(30) == 0 ? STEP : 1 + random.nextInt(3); times > 0; times--) {
                 same("undo", bit(watch.undo()), bit(plain.undo()));
             }
         }
@@ -187,8 +213,8 @@ public final class AgreementTest {
         int t = towerNumber();
         int r = coordinate();
         int c = coordinate();
-        int what = random.nextInt(10) == 0 ? near(0, 7) : random.nextInt(7);
-        int rank = random.nextInt(10) == 0 ? near(0, 256) : random.nextInt(size);
+        int what = random.nextInt(10) == 0 ? odd(0, 7) : random.nextInt(7);
+        int rank = random.nextInt(10) == 0 ? odd(0, 256) : random.nextInt(size);
         switch (random.nextInt(17)) {
             case 0 -> same("see " + t + " " + r + " " + c, watch.see(t, r, c), plain.see(t, r, c));
             case 1 -> same("hidden " + t + " " + r + " " + c, watch.hidden(t, r, c), plain.hidden(t, r, c));

@@ -1,12 +1,8 @@
+import java.util.ArrayList;
+import java.util.List;
+
 /** Every promise of the document by its number: ordinary inputs, edges, wrong inputs. */
-public final class PromisesTest {
-    private static final int NONE = SmokeWatch.NONE;
-    private static final int MIN = Integer.MIN_VALUE;
-    private static final int MAX = Integer.MAX_VALUE;
-
-    private static int wrong;
-    private static String promise = "";
-
+public final class PromisesTest extends Checks {
     public static void main(String[] args) {
         newObject();
         rows();
@@ -45,59 +41,13 @@ public final class PromisesTest {
         undosBeyondFifty();
         counts();
         anyArguments();
-        System.out.println(wrong == 0 ? "all promises hold" : wrong + " answers are wrong");
-        System.exit(wrong == 0 ? 0 : 1);
-    }
-
-    private static void is(String call, int got, int due) {
-        if (got != due) {
-            wrong++;
-            System.out.println(promise + ": " + call + " answered " + got + ", due is " + due);
-        }
-    }
-
-    private static void yes(String call, boolean got) {
-        is(call, got ? 1 : 0, 1);
-    }
-
-    private static void no(String call, boolean got) {
-        is(call, got ? 1 : 0, 0);
-    }
-
-    /** A flat wood of n rows of n squares, a minute each. */
-    private static SmokeWatch flat(int n) {
-        SmokeWatch w = new SmokeWatch();
-        for (int r = 0; r < n; r++) {
-            w.row(r, n, 0, 1);
-        }
-        return w;
-    }
-
-    /** A BEARING's place. */
-    private static int bearing(SmokeWatch w, int t, int minute, int down, int right, int side) {
-        return w.sight(0, t, minute, down, right, side, 0, 0);
-    }
-
-    private static void squaresAre(SmokeWatch w, int i, int... due) {
-        is("log(" + i + ", 3)", w.log(i, 3), due.length);
-        for (int k = 0; k < due.length; k++) {
-            is("squares(" + i + ", " + k + ")", w.squares(i, k), due[k]);
-        }
-        is("squares behind the last", w.squares(i, due.length), NONE);
-    }
-
-    private static void patchIs(SmokeWatch w, int f, int... due) {
-        is("fire(" + f + ", 2)", w.fire(f, 2), due.length);
-        for (int k = 0; k < due.length; k++) {
-            is("patch(" + f + ", " + k + ")", w.patch(f, k), due[k]);
-        }
-        is("patch behind the last", w.patch(f, due.length), NONE);
+        finish("all promises hold");
     }
 
     private static void newObject() {
         promise = "1 new object";
         is("NONE", SmokeWatch.NONE, -1);
-        SmokeWatch w = new SmokeWatch();
+        Watch w = new Watch();
         for (int what = 0; what < 6; what++) {
             is("count(" + what + ")", w.count(what), 0);
         }
@@ -111,7 +61,7 @@ public final class PromisesTest {
 
     private static void rows() {
         promise = "2 row";
-        SmokeWatch w = new SmokeWatch();
+        Watch w = new Watch();
         yes("all of it", w.row(15, 16, 3000, 60));
         is("count(5)", w.count(5), 16);
         yes("least", w.row(0, 1, -1000, 1));
@@ -136,7 +86,7 @@ public final class PromisesTest {
     }
 
     private static void fullWood() {
-        SmokeWatch w = flat(16);
+        Watch w = flat(16);
         is("all of it", w.count(5), 256);
         is("no square, though 16 r + c is one's number", w.crew(1, -1), NONE);
         is("no square, though 16 r + c is one's number", w.crew(0, 16), NONE);
@@ -151,7 +101,7 @@ public final class PromisesTest {
     }
 
     private static void newFiresBehindARow() {
-        SmokeWatch w = flat(3);
+        Watch w = flat(3);
         w.report(0, 0, 5, 1, 1, 0);
         w.begin(0);
         w.out(0);
@@ -161,8 +111,8 @@ public final class PromisesTest {
         is("it BURNS", w.fire(0, 0), 0);
     }
 
-    private static SmokeWatch busy() {
-        SmokeWatch w = flat(4);
+    private static Watch busy() {
+        Watch w = flat(4);
         w.tower(0, 0, 10);
         w.crew(3, 3);
         bearing(w, 0, 5, 1, 1, 20);
@@ -177,7 +127,7 @@ public final class PromisesTest {
     }
 
     private static void takesAllAway() {
-        SmokeWatch w = busy();
+        Watch w = busy();
         no("a wrong one", w.row(4, 17, 0, 1));
         is("it takes nothing", w.count(0) + w.count(1) + w.count(2) + w.count(3) + w.count(4), 1 + 2 + 1 + 1 + 4);
         is("sent stays", w.sent(0), 0);
@@ -199,7 +149,7 @@ public final class PromisesTest {
 
     private static void squaresOfTheWood() {
         promise = "3 square";
-        SmokeWatch w = flat(3);
+        Watch w = flat(3);
         w.tower(0, 0, 10);
         yes("square", w.square(0, 1, 3000, 60));
         is("the tower stays", w.count(0), 1);
@@ -230,7 +180,7 @@ public final class PromisesTest {
 
     private static void towers() {
         promise = "4 tower";
-        SmokeWatch w = flat(3);
+        Watch w = flat(3);
         is("missing", w.tower(3, 0, 0), NONE);
         is("missing", w.tower(0, 3, 0), NONE);
         is("height", w.tower(0, 0, -1), NONE);
@@ -249,7 +199,7 @@ public final class PromisesTest {
 
     private static void seeing() {
         promise = "5 see";
-        SmokeWatch w = flat(5);
+        Watch w = flat(5);
         w.tower(2, 2, 0);
         is("its own", w.see(0, 2, 2), 1);
         is("beside", w.see(0, 2, 3), 1);
@@ -266,7 +216,7 @@ public final class PromisesTest {
     }
 
     private static void missingHides() {
-        SmokeWatch w = new SmokeWatch();
+        Watch w = new Watch();
         w.row(0, 4, 0, 1);
         w.row(1, 1, 0, 1);
         w.row(2, 4, 0, 1);
@@ -280,7 +230,7 @@ public final class PromisesTest {
 
     private static void hiding() {
         promise = "6 hidden";
-        SmokeWatch w = flat(6);
+        Watch w = flat(6);
         w.tower(0, 0, 10);
         w.square(0, 2, 50, 1);
         w.square(0, 3, 50, 1);
@@ -308,7 +258,7 @@ public final class PromisesTest {
     private static void linesByFractions() {
         promise = "6 the heights of a line";
         // The eye is 16 high, the goal 0, two squares on: square 1 is gone through from 1/4 to 3/4.
-        SmokeWatch w = flat(3);
+        Watch w = flat(3);
         w.tower(0, 0, 16);
         w.square(0, 1, 3, 1);
         is("below the lower one", w.see(0, 0, 2), 1);
@@ -344,7 +294,7 @@ public final class PromisesTest {
 
     private static void sights() {
         promise = "7 sight";
-        SmokeWatch w = flat(6);
+        Watch w = flat(6);
         w.tower(2, 2, 10);
         is("kind -1", w.sight(-1, 0, 0, 1, 0, 0, 1, 0), NONE);
         is("kind 4", w.sight(4, 0, 0, 1, 0, 0, 1, 0), NONE);
@@ -382,7 +332,7 @@ public final class PromisesTest {
     }
 
     private static int reachInHaze(int reach, int haze) {
-        SmokeWatch w = flat(1);
+        Watch w = flat(1);
         w.tower(0, 0, 10);
         int i = w.sight(2, 0, 0, 1, 0, 0, reach, haze);
         return i == NONE ? NONE : w.log(i, 5);
@@ -415,7 +365,7 @@ public final class PromisesTest {
 
     private static void reports() {
         promise = "8 report";
-        SmokeWatch w = flat(4);
+        Watch w = flat(4);
         w.square(0, 1, 3000, 1);
         is("missing", w.report(4, 0, 0, 1, 0, 0), NONE);
         is("minute", w.report(0, 0, -1, 1, 0, 0), NONE);
@@ -436,7 +386,7 @@ public final class PromisesTest {
 
     private static void remarksAndClears() {
         promise = "9 remark, 10 clear";
-        SmokeWatch w = flat(4);
+        Watch w = flat(4);
         w.tower(0, 0, 10);
         is("remark", w.remark(MIN), 0);
         is("remark", w.remark(MAX), 1);
@@ -467,7 +417,7 @@ public final class PromisesTest {
 
     private static void logs() {
         promise = "11 log";
-        SmokeWatch w = flat(8);
+        Watch w = flat(8);
         w.tower(0, 0, 20);
         w.tower(7, 7, 20);
         w.sight(1, 1, 44, -1, -1, 0, 3, 0);
@@ -506,7 +456,7 @@ public final class PromisesTest {
 
     private static void squaresOfSightings() {
         promise = "12 squares";
-        SmokeWatch w = flat(5);
+        Watch w = flat(5);
         w.tower(2, 2, 50);
         squaresAre(w, bearing(w, 0, 1, -1, 0, 0), 2, 18);
         squaresAre(w, bearing(w, 0, 1, 0, -7, 0), 32, 33);
@@ -530,7 +480,7 @@ public final class PromisesTest {
     }
 
     private static void seenIsAsked() {
-        SmokeWatch w = flat(5);
+        Watch w = flat(5);
         w.square(2, 3, 90, 1);
         w.tower(2, 2, 50);
         squaresAre(w, w.sight(0, 0, 1, 0, 1, 0, 0, 0), 35);
@@ -539,7 +489,7 @@ public final class PromisesTest {
         squaresAre(w, w.sight(3, 0, 1, 0, 1, 0, 9, 0), 35, 36);
         squaresAre(w, w.report(2, 2, 1, 0, 1, 0), 35, 36);
         squaresAre(w, w.report(2, 4, 1, 0, 1, 400));
-        w = new SmokeWatch();
+        w = new Watch();
         w.row(0, 3, 0, 1);
         w.row(1, 1, 0, 1);
         w.row(2, 3, 0, 1);
@@ -548,7 +498,7 @@ public final class PromisesTest {
 
     private static void joins() {
         promise = "13 join";
-        SmokeWatch w = flat(8);
+        Watch w = flat(8);
         w.tower(0, 0, 50);
         w.tower(0, 7, 50);
         bearing(w, 0, 10, 1, 1, 20);
@@ -582,7 +532,7 @@ public final class PromisesTest {
     }
 
     private static void reportsJoin() {
-        SmokeWatch w = flat(8);
+        Watch w = flat(8);
         w.report(0, 0, 5, 1, 1, 0);
         w.report(0, 0, 5, 1, 1, 0);
         w.begin(0);
@@ -601,7 +551,7 @@ public final class PromisesTest {
     }
 
     private static void goneAndOut() {
-        SmokeWatch w = flat(8);
+        Watch w = flat(8);
         w.report(0, 0, 5, 1, 1, 0);
         w.report(0, 0, 5, 1, 1, 0);
         w.begin(0);
@@ -615,7 +565,7 @@ public final class PromisesTest {
 
     private static void begins() {
         promise = "14 begin";
-        SmokeWatch w = flat(3);
+        Watch w = flat(3);
         w.report(0, 0, 5, 1, 1, 0);
         w.report(0, 0, 5, -1, 0, 0);
         w.remark(1);
@@ -642,7 +592,7 @@ public final class PromisesTest {
 
     private static void aparts() {
         promise = "15 apart";
-        SmokeWatch w = flat(4);
+        Watch w = flat(4);
         w.report(0, 0, 5, 1, 1, 100);
         w.report(3, 0, 5, -1, 1, 0);
         no("in none", w.apart(0));
@@ -666,7 +616,7 @@ public final class PromisesTest {
 
     private static void offices() {
         promise = "16 office";
-        SmokeWatch w = flat(8);
+        Watch w = flat(8);
         is("no fire", w.office(), 0);
         w.report(0, 0, 1, 0, 1, 0);
         w.report(7, 0, 1, 0, 1, 0);
@@ -692,7 +642,7 @@ public final class PromisesTest {
 
     private static void officeGoesBackToTheFirst() {
         // Fire 0: rows 0 and 1 wide; fire 1: column 7. Place 2 fits both until place 3 has narrowed fire 0.
-        SmokeWatch w = flat(8);
+        Watch w = flat(8);
         w.report(0, 0, 1, 0, 1, 0);
         w.report(7, 7, 1, -1, 0, 0);
         w.report(0, 6, 1, 0, 1, 0);
@@ -709,7 +659,7 @@ public final class PromisesTest {
     }
 
     private static void officeLeavesTwo() {
-        SmokeWatch w = flat(4);
+        Watch w = flat(4);
         w.report(0, 0, 1, 1, 1, 0);
         w.report(0, 0, 1, 1, 1, 0);
         w.report(0, 0, 1, 1, 1, 0);
@@ -723,7 +673,7 @@ public final class PromisesTest {
 
     private static void outs() {
         promise = "17 out";
-        SmokeWatch w = flat(4);
+        Watch w = flat(4);
         no("none", w.out(0));
         no("none", w.out(-1));
         w.report(0, 0, 1, 1, 1, 0);
@@ -745,7 +695,7 @@ public final class PromisesTest {
 
     private static void fires() {
         promise = "18 fire";
-        SmokeWatch w = flat(5);
+        Watch w = flat(5);
         is("none", w.fire(0, 0), NONE);
         w.report(0, 0, 1, 0, 1, 0);
         w.report(1, 0, 1, 0, 1, 0);
@@ -775,7 +725,7 @@ public final class PromisesTest {
     }
 
     private static void againIsOfItsBeginning() {
-        SmokeWatch w = flat(5);
+        Watch w = flat(5);
         w.report(0, 0, 1, 0, 1, 0);
         w.report(0, 1, 1, 0, 1, 0);
         w.report(0, 0, 1, 1, 0, 0);
@@ -800,7 +750,7 @@ public final class PromisesTest {
 
     private static void middles() {
         promise = "18 the middle";
-        SmokeWatch w = flat(5);
+        Watch w = flat(5);
         w.report(0, 0, 1, 0, 1, 0);
         w.begin(0);
         is("of 1 to 4 both 2 and 3, the least", w.fire(0, 3), 2);
@@ -824,7 +774,7 @@ public final class PromisesTest {
         is("the least number", w.fire(0, 3), 1);
         w.out(0);
         is("of OUT too", w.fire(0, 3), 1);
-        w = new SmokeWatch();
+        w = new Watch();
         w.row(0, 16, 0, 1);
         for (int r = 1; r < 4; r++) {
             w.row(r, 1, 0, 1);
@@ -837,25 +787,34 @@ public final class PromisesTest {
         is("middle", w.fire(0, 3), 3);
     }
 
+    private static List<Integer> squaresOf(Watch w, int i) {
+        List<Integer> squares = new ArrayList<>();
+        for (int q = w.squares(i, 0); q != NONE; q = w.squares(i, squares.size())) {
+            squares.add(q);
+        }
+        return squares;
+    }
+
+    private static List<Integer> patchOf(Watch w, int f) {
+        List<Integer> squares = new ArrayList<>();
+        for (int q = w.patch(f, 0); q != NONE; q = w.patch(f, squares.size())) {
+            squares.add(q);
+        }
+        return squares;
+    }
+
     private static void patches() {
         promise = "19 patch";
-        SmokeWatch w = flat(6);
+        Watch w = flat(6);
         w.report(0, 0, 1, 1, 1, 50);
         w.report(5, 0, 1, -1, 1, 50);
         is("none", w.patch(0, 0), NONE);
         w.begin(0);
         w.join(1, 0);
-        for (int k = 0; k < w.fire(0, 2); k++) {
-            int q = w.patch(0, k);
-            boolean first = false;
-            boolean second = false;
-            for (int n = 0; n < 36; n++) {
-                first |= w.squares(0, n) == q;
-                second |= w.squares(1, n) == q;
-            }
-            yes("both have " + q, first && second);
-            yes("rising", k == 0 || w.patch(0, k - 1) < q);
-        }
+        List<Integer> both = squaresOf(w, 0);
+        both.retainAll(squaresOf(w, 1));
+        is("how many", both.size(), 2 + 5 + 5 + 2);
+        patchIs(w, 0, both.stream().mapToInt(q -> q).toArray());
         is("k -1", w.patch(0, -1), NONE);
         is("f -1", w.patch(-1, 0), NONE);
         is("f 1", w.patch(1, 0), NONE);
@@ -864,7 +823,7 @@ public final class PromisesTest {
 
     private static void fewests() {
         promise = "20 fewest";
-        SmokeWatch w = flat(8);
+        Watch w = flat(8);
         w.tower(0, 0, 50);
         is("none", w.fewest(0, 9999), 0);
         w.report(0, 0, 1, 0, 1, 0);
@@ -902,7 +861,7 @@ public final class PromisesTest {
 
     private static void fewestIsNoGreed() {
         // Places 0 and 1 meet, but 0 with 2 and 1 with 3 leaves two fires.
-        SmokeWatch w = flat(8);
+        Watch w = flat(8);
         w.report(3, 0, 1, 0, 1, 0);
         w.report(0, 3, 2, 1, 0, 0);
         w.report(0, 6, 3, 1, 0, 0);
@@ -915,7 +874,7 @@ public final class PromisesTest {
 
     private static void threePairs() {
         // Columns 1 to 3 and diagonals that each meet just one of them: 0 with 5, 1 with 4, 2 with 3.
-        SmokeWatch w = flat(8);
+        Watch w = flat(8);
         w.report(1, 1, 1, -1, 0, 0);
         w.report(1, 3, 1, -1, 0, 0);
         w.report(1, 5, 1, -1, 0, 0);
@@ -930,7 +889,7 @@ public final class PromisesTest {
 
     private static void nexts() {
         promise = "21 next";
-        SmokeWatch w = flat(8);
+        Watch w = flat(8);
         w.report(4, 0, 1, 0, 1, 0);
         w.begin(0);
         is("no tower", w.next(0), NONE);
@@ -959,7 +918,7 @@ public final class PromisesTest {
 
     private static void nextHasSide41() {
         // 5 / 12 is above 41 in 100, and so is 7 / 17, as (12, 5) lies by (1, 1): it is in neither.
-        SmokeWatch w = flat(16);
+        Watch w = flat(16);
         w.tower(0, 0, 100);
         w.report(11, 5, 1, 1, 0, 0);
         w.begin(0);
@@ -977,41 +936,47 @@ public final class PromisesTest {
         mostlyByBearings();
     }
 
-    /** What next() answers against the BEARINGS themselves. */
+    /** What next() answers against the BEARINGS themselves, each on an object of its own. */
     private static void mostlyByBearings() {
-        int[] downs = {-1, -1, 0, 1, 1, 1, 0, -1};
-        int[] rights = {0, 1, 1, 1, 0, -1, -1, -1};
         for (int n = 0; n < 12; n++) {
-            SmokeWatch w = flat(16);
-            w.tower(3, 4 + n % 3, 30);
-            w.tower(12, 9, 30);
-            w.report(n, 2, 1, 3, 7 - n, 30 + 5 * n);
-            is("begin", w.begin(0), 0);
             int least = 999;
             int due = NONE;
             for (int look = 0; look < 16; look++) {
-                int i = bearing(w, look / 8, 1, downs[look % 8], rights[look % 8], 41);
-                int has = 0;
-                for (int k = 0; k < w.log(i, 3); k++) {
-                    for (int m = 0; m < w.fire(0, 2); m++) {
-                        has += w.squares(i, k) == w.patch(0, m) ? 1 : 0;
-                    }
-                }
-                int greater = Math.max(has, w.fire(0, 2) - has);
+                int greater = greaterPart(n, look);
                 if (greater < least) {
                     least = greater;
                     due = look;
                 }
             }
-            is("next of " + n, w.next(0), due);
+            is("next of " + n, twoTowersAndAFire(n).next(0), due);
         }
+    }
+
+    private static Watch twoTowersAndAFire(int n) {
+        Watch w = flat(16);
+        w.tower(3, 4 + n % 3, 30);
+        w.tower(12, 9, 30);
+        w.report(n, 2, 1, 3, 7 - n, 30 + 5 * n);
+        is("begin", w.begin(0), 0);
+        return w;
+    }
+
+    private static int greaterPart(int n, int look) {
+        int[] downs = {-1, -1, 0, 1, 1, 1, 0, -1};
+        int[] rights = {0, 1, 1, 1, 0, -1, -1, -1};
+        Watch w = twoTowersAndAFire(n);
+        int i = bearing(w, look / 8, 1, downs[look % 8], rights[look % 8], 41);
+        List<Integer> has = patchOf(w, 0);
+        int whole = has.size();
+        has.retainAll(squaresOf(w, i));
+        return Math.max(has.size(), whole - has.size());
     }
 
     private static void eachDirection() {
         int[] downs = {-1, -1, 0, 1, 1, 1, 0, -1};
         int[] rights = {0, 1, 1, 1, 0, -1, -1, -1};
         for (int d = 0; d < 8; d++) {
-            SmokeWatch w = flat(9);
+            Watch w = flat(9);
             w.tower(4, 4, 50);
             // From three behind the tower: two squares behind it, its own, four before it.
             w.report(4 - 3 * downs[d], 4 - 3 * rights[d], 1, downs[d], rights[d], 0);
@@ -1021,7 +986,7 @@ public final class PromisesTest {
     }
 
     private static void nextAsksSeen() {
-        SmokeWatch w = flat(8);
+        Watch w = flat(8);
         w.square(4, 4, 500, 1);
         w.tower(4, 3, 10);
         w.report(4, 0, 1, 0, 1, 0);
@@ -1032,7 +997,7 @@ public final class PromisesTest {
 
     private static void crews() {
         promise = "22 crew, 24 place";
-        SmokeWatch w = flat(3);
+        Watch w = flat(3);
         is("missing", w.crew(3, 0), NONE);
         is("missing", w.crew(0, -1), NONE);
         is("none", w.place(0), NONE);
@@ -1048,7 +1013,7 @@ public final class PromisesTest {
 
     private static void moves() {
         promise = "23 move";
-        SmokeWatch w = flat(3);
+        Watch w = flat(3);
         w.row(3, 0, 0, 0);
         w.row(4, 2, 0, 1);
         no("no crew", w.move(0, 0, 0));
@@ -1067,7 +1032,7 @@ public final class PromisesTest {
 
     private static void minutes() {
         promise = "25 minutes";
-        SmokeWatch w = flat(3);
+        Watch w = flat(3);
         w.square(0, 1, 0, 60);
         w.square(1, 0, 19, 2);
         w.square(1, 1, 50, 3);
@@ -1107,7 +1072,7 @@ public final class PromisesTest {
 
     private static void ways() {
         promise = "26 way";
-        SmokeWatch w = flat(4);
+        Watch w = flat(4);
         w.crew(2, 2);
         int[] due = {34, 18, 2, 1, 0};
         for (int i = 0; i < due.length; i++) {
@@ -1144,11 +1109,11 @@ public final class PromisesTest {
 
     private static void sends() {
         promise = "27 send, 28 sent";
-        SmokeWatch w = flat(8);
+        Watch w = flat(8);
         w.row(8, 0, 0, 0);
         w.row(9, 1, 0, 1);
         is("no fire", w.send(), NONE);
-        is("none at first", new SmokeWatch().sent(0), NONE);
+        is("none at first", new Watch().sent(0), NONE);
         w.report(0, 0, 1, 0, 1, 0);
         w.report(7, 1, 1, 0, -1, 0);
         w.begin(0);
@@ -1183,7 +1148,7 @@ public final class PromisesTest {
 
     private static void sendsByNumbers() {
         promise = "27 of several the least row";
-        SmokeWatch w = flat(4);
+        Watch w = flat(4);
         w.report(0, 0, 1, 0, 1, 0);
         w.begin(0);
         w.report(1, 0, 1, 0, 1, 0);
@@ -1214,7 +1179,7 @@ public final class PromisesTest {
 
     private static void eightFires() {
         // Fire f is on (f, 0) alone; crew k stands on (7 - k, 1).
-        SmokeWatch w = flat(8);
+        Watch w = flat(8);
         for (int f = 0; f < 8; f++) {
             w.report(f, 1, 1, 0, -1, 0);
             is("begin", w.begin(f), f);
@@ -1251,7 +1216,7 @@ public final class PromisesTest {
 
     private static void blinds() {
         promise = "29 blinds, 30 blind";
-        SmokeWatch w = flat(3);
+        Watch w = flat(3);
         is("no tower", w.blinds(), 9);
         is("the first", w.blind(0), 0);
         is("the last", w.blind(8), 34);
@@ -1277,7 +1242,7 @@ public final class PromisesTest {
 
     private static void bests() {
         promise = "31 best";
-        SmokeWatch w = flat(3);
+        Watch w = flat(3);
         is("of several the least", w.best(), 0);
         w.tower(0, 0, 10);
         is("there is none of these", w.best(), NONE);
@@ -1292,7 +1257,7 @@ public final class PromisesTest {
         w.tower(0, 3, 10);
         is("it changes with the towers", w.best(), NONE);
         // 10 high is told: over a hill of 4 at half the way it sees, of 6 it doesn't.
-        w = new SmokeWatch();
+        w = new Watch();
         w.row(0, 3, 0, 1);
         w.square(0, 1, 2, 1);
         is("over it", w.best(), 0);
@@ -1303,19 +1268,19 @@ public final class PromisesTest {
         is("an eye of 13 sees over 3", w.best(), 0);
         w.square(0, 0, 2, 1);
         is("an eye of 12 doesn't", w.best(), 1);
-        w = new SmokeWatch();
+        w = new Watch();
         w.row(0, 1, 0, 1);
         w.row(2, 1, 0, 1);
         is("each sees itself alone", w.best(), 0);
         w.row(0, 0, 0, 1);
         is("square 0 is missing", w.best(), 32);
         is("square 0 is missing", w.blind(0), 32);
-        is("a new object", new SmokeWatch().best(), NONE);
+        is("a new object", new Watch().best(), NONE);
     }
 
     private static void claims() {
         promise = "32 claim, 33 check";
-        SmokeWatch w = flat(8);
+        Watch w = flat(8);
         w.tower(0, 0, 50);
         no("i -1", w.claim(-1, 0));
         no("i 60", w.claim(60, 0));
@@ -1361,7 +1326,7 @@ public final class PromisesTest {
 
     private static void undos() {
         promise = "34 undo";
-        SmokeWatch w = flat(6);
+        Watch w = flat(6);
         w.tower(0, 0, 50);
         no("none", w.undo());
         bearing(w, 0, 1, 1, 1, 50);
@@ -1390,7 +1355,7 @@ public final class PromisesTest {
 
     private static void undoAsItWas() {
         // What a cleared sighting was it is again, whatever the wood has become since.
-        SmokeWatch w = flat(4);
+        Watch w = flat(4);
         w.tower(0, 0, 50);
         bearing(w, 0, 1, 0, 1, 0);
         w.clear(0);
@@ -1408,7 +1373,7 @@ public final class PromisesTest {
 
     private static void undosOfFires() {
         promise = "34 undo of fires";
-        SmokeWatch w = flat(6);
+        Watch w = flat(6);
         w.report(0, 0, 1, 1, 1, 60);
         w.report(5, 0, 1, -1, 1, 0);
         w.begin(0);
@@ -1450,7 +1415,7 @@ public final class PromisesTest {
 
     private static void undosBeyondFifty() {
         promise = "34 the latest 50";
-        SmokeWatch w = flat(6);
+        Watch w = flat(6);
         for (int n = 0; n < 53; n++) {
             w.remark(n);
         }
@@ -1497,7 +1462,7 @@ public final class PromisesTest {
 
     private static void counts() {
         promise = "35 count";
-        SmokeWatch w = busy();
+        Watch w = busy();
         int[] due = {1, 2, 1, 1, 4, 16};
         for (int what = 0; what < due.length; what++) {
             is("count(" + what + ")", w.count(what), due[what]);
@@ -1519,11 +1484,11 @@ public final class PromisesTest {
         try {
             for (int a : EDGES) {
                 for (int b : EDGES) {
-                    SmokeWatch w = busy();
+                    Watch w = busy();
                     askAll(w, a, b, 1);
                     askAll(w, a, 1, b);
                     askAll(w, 1, a, b);
-                    askAll(new SmokeWatch(), a, b, 1);
+                    askAll(new Watch(), a, b, 1);
                 }
             }
         } catch (RuntimeException e) {
@@ -1531,7 +1496,7 @@ public final class PromisesTest {
         }
     }
 
-    private static void askAll(SmokeWatch w, int a, int b, int c) {
+    private static void askAll(Watch w, int a, int b, int c) {
         w.see(a, b, c);
         w.hidden(a, b, c);
         w.log(a, b);
