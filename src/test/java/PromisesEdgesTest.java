@@ -18,6 +18,7 @@ public final class PromisesEdgesTest extends Bounds {
         outsAndFires();
         fewests();
         nexts();
+        nextByTheFirstAndTheLastSquare();
         crewsAndMoves();
         sends();
         blinds();
@@ -593,6 +594,16 @@ public final class PromisesEdgesTest extends Bounds {
         is("the last MINUTE", w.fewest(9999, 9999), 1);
         is("none between", w.fewest(1, 9998), 0);
         is("both", w.fewest(0, 9999), 1);
+        promise = "20 fewest: all places of the log";
+        w = flat(3);
+        w.tower(0, 0, 10);
+        for (int i = 0; i < 60; i++) {
+            w.sight(0, 0, i == 0 || i == 59 ? 5000 : i, 1, 1, 0, 0, 0);
+        }
+        is("the first and the last", w.fewest(5000, 5000), 2);
+        is("ten between", w.fewest(40, 49), 1);
+        is("eleven between", w.fewest(40, 50), NONE);
+        is("the last of them", w.fewest(58, 58), 1);
     }
 
     private static void withoutSquares() {
@@ -650,6 +661,28 @@ public final class PromisesEdgesTest extends Bounds {
         w.begin(0);
         patchIs(w, 0, 0, 1, 2, 16, 17, 32);
         is("the last tower sees (0, 2), in its last direction", w.next(0), 8 * 7 + 7);
+    }
+
+    private static void nextByTheFirstAndTheLastSquare() {
+        promise = "21 next: the first and the last square of a PATCH";
+        Watch w = flat(16);
+        w.tower(0, 1, 5);
+        w.report(0, 3, 1, 0, -1, 0);
+        w.begin(0);
+        patchIs(w, 0, 0, 1, 2);
+        is("to the right (0, 2), to the left (0, 0): the first", w.next(0), 2);
+        w = flat(16);
+        w.tower(0, 2, 5);
+        w.report(0, 3, 1, 0, -1, 0);
+        w.begin(0);
+        is("to the left (0, 0) and (0, 1)", w.next(0), 6);
+        w = flat(16);
+        w.tower(15, 14, 5);
+        w.tower(0, 15, 5);
+        w.report(15, 13, 1, 0, 1, 0);
+        w.begin(0);
+        patchIs(w, 0, 254, 255);
+        is("to the right (15, 15)", w.next(0), 2);
     }
 
     // 22 crew, 23 move, 25 minutes, 26 way
@@ -838,13 +871,37 @@ public final class PromisesEdgesTest extends Bounds {
         }
         is("the other ROW", w.best(), 80);
         promise = "31 best: a tower of height 10";
-        // A line from 10 to 0 over two squares goes out of the middle one at 2 1/2.
+        // From 10 to 2 over two squares it goes out of the middle one at 4, from 10 to 1 at 3 1/4.
         w = new Watch();
         w.row(0, 3, 0, 1);
-        w.square(0, 1, 2, 1);
-        is("2 doesn't hide", w.best(), 0);
+        w.square(0, 2, 2, 1);
+        w.square(0, 1, 4, 1);
+        is("4 hides (from 11 on it wouldn't)", w.best(), 1);
+        w.square(0, 2, 1, 1);
         w.square(0, 1, 3, 1);
-        is("3 hides", w.best(), 1);
+        is("3 doesn't (from 9 it would)", w.best(), 0);
+        bestOfTheFirstAndTheLast();
+    }
+
+    private static void bestOfTheFirstAndTheLast() {
+        promise = "31 best: the first and the last square";
+        Watch w = new Watch();
+        w.row(0, 1, 0, 1);
+        is("the first alone", w.best(), 0);
+        w = new Watch();
+        w.row(15, 16, 0, 1);
+        w.square(15, 14, 3000, 1);
+        w.tower(15, 0, 100);
+        is("the last alone is blind", w.blind(0), 255);
+        is("one", w.blinds(), 1);
+        is("over the wall it's seen from the wall", w.best(), 254);
+        w = new Watch();
+        w.row(15, 16, 0, 1);
+        for (int c = 1; c < 15; c += 2) {
+            w.square(15, c, 50, 1);
+        }
+        w.square(15, 15, 3000, 1);
+        is("from the last all are seen", w.best(), 255);
     }
 
     // 32 claim, 33 check

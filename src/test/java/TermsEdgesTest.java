@@ -26,6 +26,8 @@ public final class TermsEdgesTest extends Checks {
         aNewRowTakesAway(9, 0);
         aNewRowTakesAway(4, 16);
         aNewRowLeavesTheOthers();
+        aNewRowClearsTheWholeLog();
+        theLastSquareIsAsTheOthers();
     }
 
     private static void atFirstAllRowsAreMissing() {
@@ -114,6 +116,7 @@ public final class TermsEdgesTest extends Checks {
         w.begin(0);
         w.crew(3, 3);
         is("send", w.send(), 2);
+        yes("out", w.out(0));
         yes("row", w.row(r, n, 0, 1));
         is("towers", w.count(0), 0);
         is("a tower sees no more", w.see(0, 0, 0), NONE);
@@ -155,6 +158,59 @@ public final class TermsEdgesTest extends Checks {
         is("row 1 is new again", w.minutes(0, 1, 0), 3);
         is("and shorter", w.minutes(0, 1, 1), NONE);
         is("row 2 stays", w.minutes(0, 2, 2), 3 + 1 + 1 + 1);
+    }
+
+    private static void aNewRowClearsTheWholeLog() {
+        promise = "Terms 1: a new ROW takes all 60 places and 20 fires away";
+        Watch w = flat(3);
+        for (int i = 0; i < 60; i++) {
+            w.report(0, 0, 1, 1, 1, 0);
+        }
+        for (int f = 0; f < 20; f++) {
+            w.begin(59 - f);
+        }
+        w.row(0, 3, 0, 1);
+        for (int i = 0; i < 60; i++) {
+            is("it has nothing", w.log(i, 0), 6);
+        }
+        for (int f = 0; f < 20; f++) {
+            is("no fire", w.fire(f, 0), NONE);
+        }
+        for (int i = 0; i < 60; i++) {
+            is("the first that has nothing", w.report(0, 0, 1, 1, 1, 0), i);
+            is("in no fire", w.log(i, 4), NONE);
+        }
+        is("fires ever", w.begin(59), 0);
+    }
+
+    private static void theLastSquareIsAsTheOthers() {
+        promise = "Terms 1: the height and MINUTES of the first and the last square";
+        Watch w = flat(16);
+        yes("the first", w.square(0, 0, 25, 7));
+        yes("the last", w.square(15, 15, 35, 8));
+        w.crew(0, 1);
+        w.crew(15, 14);
+        is("to the first", w.minutes(0, 0, 0), 7 + 2);
+        is("to the last", w.minutes(1, 15, 15), 8 + 3);
+        w = flat(16);
+        w.square(0, 0, 30, 1);
+        w.square(15, 15, 40, 1);
+        w.square(0, 1, 20, 1);
+        w.square(15, 14, 20, 1);
+        w.tower(0, 2, 10);
+        w.tower(15, 13, 0);
+        w.tower(0, 0, 0);
+        w.tower(15, 15, 0);
+        is("from 10 up to 30: in at 15", w.see(0, 0, 0), 0);
+        is("from 0 up to 40: in at 10", w.see(1, 15, 15), 0);
+        is("from 30 down to 0: out at 7 1/2", w.see(2, 0, 2), 0);
+        w.square(0, 1, 14, 1);
+        w.square(15, 14, 9, 1);
+        is("from 10 up to 30: in at 15", w.see(0, 0, 0), 1);
+        is("from 0 up to 40: in at 10", w.see(1, 15, 15), 1);
+        is("from 40 down to 0: out at 10", w.see(3, 15, 13), 1);
+        w.square(15, 14, 10, 1);
+        is("from 40 down to 0: out at 10", w.see(3, 15, 13), 0);
     }
 
     // SEEN
@@ -316,6 +372,11 @@ public final class TermsEdgesTest extends Checks {
         is("(0, 1) is not gone through", w.hidden(0, 15, 14), NONE);
         w.square(1, 0, 3000, 1);
         is("a small bit of the inside", w.hidden(0, 15, 14), 16);
+        w.square(1, 0, 0, 1);
+        w.square(15, 13, 3000, 1);
+        is("(15, 13) is not gone through", w.hidden(0, 15, 14), NONE);
+        w.square(14, 14, 3000, 1);
+        is("the last of all on the line", w.hidden(0, 15, 14), 16 * 14 + 14);
     }
 
     private static void theEndsDoNotHide() {
@@ -361,6 +422,28 @@ public final class TermsEdgesTest extends Checks {
         is("0 above doesn't", w.see(6, 0, 2), 0);
         w.square(0, 1, 100, 1);
         is("100 above doesn't see over 100", w.see(7, 0, 2), 0);
+        bearingsOfTheFirstAndTheLastTower();
+    }
+
+    private static void bearingsOfTheFirstAndTheLastTower() {
+        promise = "Terms 1: what the first and the last tower see changes with the wood";
+        Watch w = flat(3);
+        for (int t = 0; t < 8; t++) {
+            w.tower(0, 0, 10);
+        }
+        for (int height : new int[] {0, 500, 0}) {
+            yes("square", w.square(0, 1, height, 1));
+            is("(0, 2) and (1, 2) are blind", w.blinds(), height == 0 ? 0 : 2);
+            for (int t = 0; t < 8; t++) {
+                is("tower " + t, w.log(w.sight(0, t, 1, 0, 1, 0, 0, 0), 3), height == 0 ? 2 : 1);
+            }
+            for (int t = 0; t < 8; t++) {
+                w.clear(t);
+            }
+        }
+        w.row(0, 3, 0, 1);
+        w.tower(2, 2, 10);
+        is("a new tower in its place", w.log(w.sight(0, 0, 1, 0, -1, 0, 0, 0), 3), 2);
     }
 
     // ==== 2. THE LOG
@@ -502,8 +585,16 @@ public final class TermsEdgesTest extends Checks {
         is("and below 22 * 22", w.log(w.sight(1, 0, 1, 1, 1, 0, 22, 0), 3), 15);
         is("40", w.log(w.sight(1, 0, 1, 1, 1, 0, 40, 0), 3), 15);
         is("40 of FAINT", w.log(w.sight(2, 0, 1, 1, 1, 0, 40, 0), 3), 15);
-        is("not asked of BEARING", w.log(w.sight(0, 0, 1, 1, 1, 0, 1, 0), 3), 15);
-        is("not asked of GLOW", w.log(w.sight(3, 0, 1, 1, 1, 0, 1, 0), 3), 15);
+        w.row(15, 16, 0, 1);
+        w.tower(15, 15, 100);
+        w.tower(9, 4, 100);
+        squaresAre(w, w.sight(1, 0, 1, -3, -4, 0, 5, 0), 16 * 12 + 11);
+        squaresAre(w, w.sight(1, 0, 1, -3, -4, 0, 4, 0));
+        squaresAre(w, w.sight(1, 1, 1, -3, 4, 0, 5, 0), 16 * 6 + 8);
+        squaresAre(w, w.sight(1, 1, 1, 3, -4, 0, 4, 0));
+        squaresAre(w, w.sight(2, 1, 1, 3, -4, 0, 5, 0), 16 * 12);
+        is("not asked of BEARING", w.log(w.sight(0, 0, 1, -1, -1, 0, 1, 0), 3), 15);
+        is("not asked of GLOW", w.log(w.sight(3, 0, 1, -1, -1, 0, 1, 0), 3), 15);
     }
 
     private static void seenIsNotAskedOfAll() {
@@ -577,6 +668,8 @@ public final class TermsEdgesTest extends Checks {
     private static void fires() {
         twentyEver();
         fits();
+        fitsByTheFirstAndTheLast();
+        fitsByOneSquare();
         again();
         middles();
     }
@@ -625,6 +718,67 @@ public final class TermsEdgesTest extends Checks {
         is("so the same tower and MINUTE fits", w.log(4, 6), 1);
         yes("join", w.join(4, 0));
         is("and the first no more", w.log(0, 6), 0);
+    }
+
+    private static void fitsByTheFirstAndTheLast() {
+        for (int last : new int[] {0, 59}) {
+            promise = "Terms 3: FITS, the SIGHTING at place " + last;
+            Watch w = flat(3);
+            w.tower(0, 0, 10);
+            for (int i = 0; i < 60; i++) {
+                w.sight(0, 0, i == 0 || i == 59 ? 1000 : i, 1, 1, 0, 0, 0);
+            }
+            w.begin(last);
+            is("the same tower and MINUTE", w.log(59 - last, 6), 0);
+            no("join", w.join(59 - last, 0));
+            is("another MINUTE", w.log(30, 6), 1);
+        }
+        promise = "Terms 3: FITS, the first and the last fire";
+        Watch w = flat(3);
+        w.tower(0, 0, 10);
+        for (int i = 0; i < 21; i++) {
+            w.sight(0, 0, i < 20 ? i : 0, 1, 1, 0, 0, 0);
+        }
+        for (int f = 0; f < 20; f++) {
+            w.begin(f);
+        }
+        is("all but the first", w.log(20, 6), 19);
+        no("the first", w.join(20, 0));
+        yes("the last", w.join(20, 19));
+        w.apart(20);
+        w.clear(20);
+        w.sight(0, 0, 19, 1, 1, 0, 0, 0);
+        is("all but the last", w.log(20, 6), 19);
+        no("the last", w.join(20, 19));
+        for (int f = 0; f < 19; f++) {
+            w.out(f);
+        }
+        is("none", w.log(20, 6), 0);
+        w.report(0, 0, 1, 1, 1, 0);
+        is("the last alone", w.log(21, 6), 1);
+        is("office", w.office(), 1);
+        is("it joins to the last", w.log(21, 4), 19);
+    }
+
+    /** A ROW and a column have one square in common, wherever in the wood it lies. */
+    private static void fitsByOneSquare() {
+        promise = "Terms 3: FITS, by one square";
+        for (int r = 0; r < 16; r += 3) {
+            for (int c = 1; c < 16; c += 7) {
+                Watch w = flat(16);
+                w.report(r, 0, 1, 0, 1, 0);
+                w.report(r == 0 ? 15 : r - 1, c, 1, r == 0 ? -1 : 1, 0, 0);
+                w.begin(0);
+                is("it FITS", w.log(1, 6), 1);
+                yes("join", w.join(1, 0));
+                patchIs(w, 0, 16 * r + c);
+                is("its MIDDLE", w.fire(0, 3), 16 * r + c);
+                w.out(0);
+                w.report(r, c == 1 ? 15 : c - 1, 1, 0, c == 1 ? -1 : 1, 0);
+                w.begin(2);
+                is("AGAIN", w.fire(1, 4), 0);
+            }
+        }
     }
 
     private static void again() {
@@ -676,6 +830,20 @@ public final class TermsEdgesTest extends Checks {
         w.begin(4);
         is("all but (0, 0)", w.fire(4, 2), 24);
         is("(2, 2)", w.fire(4, 3), 34);
+        promise = "Terms 3: MIDDLE, with the first and the last square";
+        w = flat(16);
+        w.report(0, 4, 1, 0, -1, 0);
+        w.report(15, 12, 1, 0, 1, 0);
+        w.report(0, 1, 1, 0, -1, 0);
+        w.report(15, 14, 1, 0, 1, 0);
+        for (int i = 0; i < 4; i++) {
+            w.begin(i);
+        }
+        is("0 to 3", w.fire(0, 3), 1);
+        is("253 to 255", w.fire(1, 3), 254);
+        is("0", w.fire(2, 3), 0);
+        is("255", w.fire(3, 3), 255);
+        is("asked again", w.fire(0, 3), 1);
     }
 
     // ==== 4. CREWS
@@ -687,6 +855,7 @@ public final class TermsEdgesTest extends Checks {
         theLongestWay();
         sendingAtItsBounds();
         sendingOfSeveral();
+        sendingOfEight();
     }
 
     private static void stepsGoBesideAlone() {
@@ -829,6 +998,32 @@ public final class TermsEdgesTest extends Checks {
         is("OUT has none any more", w.sent(0), NONE);
     }
 
+    /** Fire f is on (f, 0) alone; crew k stands on (7 - k, 1). */
+    private static void sendingOfEight() {
+        promise = "Terms 4: SENDING of eight";
+        Watch w = flat(8);
+        for (int f = 0; f < 8; f++) {
+            w.report(f, 1, 1, 0, -1, 0);
+            w.begin(f);
+            is("a fire more than crews", w.send(), NONE);
+            w.crew(7 - f, 1);
+        }
+        is("a step each", w.send(), 8);
+        for (int f = 0; f < 8; f++) {
+            is("the crew beside", w.sent(f), 7 - f);
+        }
+        w.report(0, 1, 1, 0, -1, 0);
+        w.begin(8);
+        is("nine fires", w.send(), NONE);
+        is("what was told stays", w.sent(7), 0);
+        for (int f = 0; f < 7; f++) {
+            w.out(f);
+        }
+        is("fires 7 and 8", w.send(), 2);
+        is("the first crew", w.sent(7), 0);
+        is("the last crew", w.sent(8), 7);
+    }
+
     // ==== 5. UNDOING
 
     private static void undoing() {
@@ -836,6 +1031,7 @@ public final class TermsEdgesTest extends Checks {
         whatDidNothingIsNoAct();
         theLatestFifty();
         fiftyBehindAMark();
+        eachOfFiftyAsItWas();
         upToTheLastCall();
     }
 
@@ -973,6 +1169,50 @@ public final class TermsEdgesTest extends Checks {
             case 5 -> w.fire(0, 0) == 1;
             default -> w.count(3) == 2;
         };
+    }
+
+    /** Whatever the number of acts ahead, each one that is undone leads to what was ahead of it. */
+    private static void eachOfFiftyAsItWas() {
+        promise = "Terms 5: then all is as ahead of it, moves";
+        Watch w = flat(8);
+        w.crew(0, 0);
+        for (int n = 1; n < 64; n++) {
+            yes("move", w.move(0, n / 8, n % 8));
+        }
+        for (int n = 62; n >= 13; n--) {
+            yes("undo", w.undo());
+            is("place", w.place(0), 16 * (n / 8) + n % 8);
+        }
+        no("undo", w.undo());
+        promise = "Terms 5: then all is as ahead of it, what was cleared";
+        w = flat(2);
+        for (int n = 0; n < 60; n++) {
+            w.remark(1000 + n);
+        }
+        for (int n = 0; n < 60; n++) {
+            yes("clear", w.clear(n));
+        }
+        for (int n = 59; n >= 10; n--) {
+            yes("undo", w.undo());
+            is("its number", w.log(n, 1), 1000 + n);
+        }
+        no("undo", w.undo());
+        is("places", w.count(1), 50);
+        promise = "Terms 5: then all is as ahead of it, fires";
+        w = flat(3);
+        w.report(0, 0, 1, 1, 1, 0);
+        w.begin(0);
+        for (int n = 1; n < 58; n++) {
+            w.report(0, 0, 1, 1, 1, 0);
+        }
+        is("office", w.office(), 57);
+        for (int n = 57; n >= 8; n--) {
+            is("how many", w.fire(0, 1), n + 1);
+            is("its fire", w.log(n, 4), 0);
+            yes("undo", w.undo());
+            is("it has left", w.log(n, 4), NONE);
+        }
+        no("undo", w.undo());
     }
 
     private static void upToTheLastCall() {
