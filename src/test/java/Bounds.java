@@ -6,7 +6,8 @@ import java.util.TreeSet;
 
 /**
  * How a bound is held: the last numbers that are taken, the first ones that are refused and many
- * beyond them, and that behind the refused calls all that can be asked is as it is without them.
+ * beyond them, and that behind the refused calls the state is as it is without them: the views ask for
+ * it, the long lists by samples.
  */
 abstract class Bounds extends Checks {
     /** A run of calls that leads to a state; the same one every time. */

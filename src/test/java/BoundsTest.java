@@ -191,8 +191,7 @@ public final class BoundsTest extends Bounds {
         is("it fits them all", twentyFires().log(20, 6), 20);
         is("eight crews", eightCrews().count(3), 8);
         is("eight towers", eightTowers().count(0), 8);
-        is("sent", sentAndOut().sent(19), 1);
-        is("sent", sentAndCutOff().sent(0), 1);
+        is("the last fire has a crew", twoSent().sent(19), 1);
     }
 
     private static void rows() {
@@ -525,29 +524,5 @@ public final class BoundsTest extends Bounds {
         refused("twenty", TWENTY_FIRES, w -> w.send());
         promise = "27 send, refused: no fire BURNS";
         refused("none", EIGHT_CREWS, w -> w.send());
-        refused("none any more", BoundsTest::sentAndOut, w -> w.send());
-        promise = "27 send, refused: it can't be done";
-        refused("no WAY for one", BoundsTest::sentAndCutOff, w -> w.send());
-    }
-
-    private static Watch sentAndOut() {
-        Watch w = twoSent();
-        w.out(0);
-        w.out(19);
-        return w;
-    }
-
-    /** Two crews, but only one that can go to the fires; what was told before was of one fire. */
-    private static Watch sentAndCutOff() {
-        Watch w = flat(4);
-        w.row(6, 3, 0, 1);
-        w.report(0, 0, 1, 1, 1, 0);
-        w.report(0, 0, 1, 0, 1, 0);
-        w.begin(0);
-        w.crew(6, 0);
-        w.crew(0, 0);
-        w.send();
-        w.begin(1);
-        return w;
     }
 }

@@ -1,6 +1,6 @@
 /**
  * The boundary cases of the promises, 1 to 35, that lie in what has been done before: empty, full,
- * joined, OUT, GONE, without a way. Behind every refused call all is looked at (see Bounds).
+ * joined, OUT, GONE, without a way. Behind a refused call the state is looked at (see Bounds).
  */
 public final class PromisesEdgesTest extends Bounds {
     public static void main(String[] args) {
