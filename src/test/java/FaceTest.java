@@ -5,7 +5,6 @@ import java.lang.reflect.Modifier;
 import java.nio.file.Files;
 import java.nio.file.Path;
 import java.util.Arrays;
-import java.util.HashSet;
 import java.util.Set;
 import java.util.TreeSet;
 import java.util.regex.Matcher;
@@ -61,11 +60,17 @@ public final class FaceTest {
         }
     }
 
-    private static void insides() {
-        Set<String> names = new HashSet<>();
+    /** The names of the calls of the face. */
+    static Set<String> names() {
+        Set<String> names = new TreeSet<>();
         for (String m : FACE) {
             names.add(m.split(" ")[1]);
         }
+        return names;
+    }
+
+    private static void insides() {
+        Set<String> names = names();
         Class<?>[] all = SmokeWatch.class.getDeclaredClasses();
         must(all.length <= 12, "at most some twelve classes");
         for (Class<?> c : all) {
