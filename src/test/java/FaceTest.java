@@ -25,7 +25,9 @@ public final class FaceTest {
     public static void main(String[] args) throws IOException {
         face();
         insides();
-        source(Files.readString(Path.of("src/main/java/SmokeWatch.java")));
+        String text = Files.readString(Path.of("src/main/java/SmokeWatch.java"));
+        asTheDocumentWritesIt(Files.readString(Path.of("../shared/DOC.md")), text);
+        source(text);
         System.out.println(wrong == 0 ? "the face and the rules hold" : wrong + " faults");
         System.exit(wrong == 0 ? 0 : 1);
     }
@@ -58,6 +60,18 @@ public final class FaceTest {
         for (Field f : c.getDeclaredFields()) {
             must(isPrivate(f.getModifiers()) || f.getName().equals("NONE"), f + " is private");
         }
+    }
+
+    /** Every line of the document's face stands in the source, the names of the parameters too. */
+    private static void asTheDocumentWritesIt(String document, String text) {
+        int lines = 0;
+        Matcher line = Pattern.compile("(?m)^    (public .*);$").matcher(document);
+        while (line.find()) {
+            String told = line.group(1);
+            must(text.contains("\n    " + told + (told.contains("=") ? ";" : " {") + "\n"), told);
+            lines++;
+        }
+        must(lines == FACE.length + 2, "the document's face has a constant, a constructor and these methods");
     }
 
     /** The names of the calls of the face. */
